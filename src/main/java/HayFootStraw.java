@@ -1,8 +1,6 @@
 /**
- * Recruits in a row who turn by words, some of them wrongly.
- *
- * <p>The document's section numbers are those of DOC.md; its terms are written in capitals there
- * and bear the same names here.
+ * Recruits in a row who turn by words, some of them wrongly. What each call answers is told by
+ * DOC.md, whose terms stand here in capitals as they do there.
  */
 public final class HayFootStraw {
 

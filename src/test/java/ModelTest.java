@@ -3,7 +3,7 @@ import java.util.Random;
 /** Runs of drawn calls, each answer held against the model's. */
 public final class ModelTest {
 
-    private static final int RUNS = 400;
+    private static final int RUNS = 500;
 
     private final Due due = new Due();
     private final Random random;
@@ -29,7 +29,8 @@ public final class ModelTest {
     }
 
     private String run() {
-        while (calls < 512) {
+        // A new text is some 100 calls, and nothing is promised behind the 512th one.
+        while (calls < 400) {
             String wrong = random.nextInt(40) == 0 ? newText() : oneCall();
             if (wrong != null) return wrong;
         }
