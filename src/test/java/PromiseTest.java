@@ -38,6 +38,7 @@ public final class PromiseTest {
         drill();
         keepAndBack();
         count();
+        eightMen();
         DUE.end();
     }
 
@@ -684,6 +685,33 @@ public final class PromiseTest {
         fresh.word(0);
         fresh.back();
         is("who erred by words that are no more", fresh.who(2), 0);
+    }
+
+    /** The last man of a full squad, by each call that takes one. */
+    private static void eightMen() {
+        HayFootStraw x = Due.laid("m2,0,7,0;".repeat(7) + "m0,0,0,0;");
+        is("shout at the last", x.shout(7), 8);
+        is("all follow the last", x.runs(7), 7);
+        is("the first follows the last", x.follows(0), 7);
+        is("look of the last", x.look(7, 7), 0);
+        is("turn of the last", x.turn(7, 0), 1);
+        is("right of the last", x.right(7, 0, 0), 0);
+        is("which of the last", x.which(7, 1), 1);
+        is("safe for the last", x.safe(7), NONE);
+        is("safe for the first", x.safe(0), 1);
+        is("plan of eight", x.plan(-1), 0);
+        is("numbers of eight", x.numbers(5), 243);
+        is("alike of eight", x.alike(0, 0), 1);
+        is("drill of eight", x.drill(1, 60, 0), 8);
+        is("drill of eight, one way", x.drill(1, 60, 1), 60);
+        is("word to eight", x.word(1), 8);
+        is("who of eight", x.who(0), 255);
+        is("most of eight", x.most(1), 8);
+        is("groups of eight", x.groups(1), 8);
+        // Of those who were there nobody counts any longer.
+        Due.lay(x, "m0,0,0,0;");
+        is("runs of one, where others followed him", x.runs(0), 0);
+        is("which was one of eight", x.follows(7), BAD);
     }
 
     // 27
