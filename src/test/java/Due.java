@@ -3,12 +3,18 @@ final class Due {
 
     private int asked;
     private int wrong;
+    private String sentence = "";
+
+    /** The document's sentence that the answers behind this are looked at for. */
+    void says(String words) {
+        sentence = "\"" + words + "\": ";
+    }
 
     void is(String call, long got, long want) {
         asked++;
         if (got != want) {
             wrong++;
-            System.out.println(call + " answered " + got + ", due is " + want);
+            System.out.println(sentence + call + " answered " + got + ", due is " + want);
         }
     }
 
