@@ -31,6 +31,8 @@ public final class LanguageTest {
         String code = withoutCommentsAndTexts(Files.readString(SOURCE));
         words(code);
         newOnlyAtFirst(code);
+        methodsStayShort(code);
+        loopsEnd(code);
         DUE.end();
     }
 
@@ -61,16 +63,22 @@ public final class LanguageTest {
         List<Class<?>> all = new ArrayList<>(Arrays.asList(HayFootStraw.class.getDeclaredClasses()));
         DUE.isTrue("twelve classes at most", all.size() < 12);
         for (Class<?> inside : all) {
+            DUE.isTrue(inside + " has some twenty fields at most", fieldsBesideConstants(inside) <= 20);
             DUE.isTrue(inside + " is static", Modifier.isStatic(inside.getModifiers()));
             for (Method m : inside.getDeclaredMethods()) {
                 DUE.isTrue(m + " bears no public name", !publicNames.contains(m.getName()));
                 DUE.isTrue(m + " takes seven at most", m.getParameterCount() <= 7);
             }
         }
+        DUE.isTrue("some twenty fields at most", fieldsBesideConstants(HayFootStraw.class) <= 20);
         for (Method m : HayFootStraw.class.getDeclaredMethods()) {
             boolean isPrivate = Modifier.isPrivate(m.getModifiers());
             DUE.isTrue(m + " bears no public name", !isPrivate || !publicNames.contains(m.getName()));
         }
+    }
+
+    private static long fieldsBesideConstants(Class<?> owner) {
+        return Arrays.stream(owner.getDeclaredFields()).filter(f -> !Modifier.isStatic(f.getModifiers())).count();
     }
 
     private static String withoutCommentsAndTexts(String source) {
@@ -99,5 +107,28 @@ public final class LanguageTest {
             boolean isPile = line.startsWith("places");
             DUE.isTrue("made at first: " + line, isField || isPile);
         }
+    }
+
+    /** A method's head and its last brace stand equally far in, and its lines farther. */
+    private static void methodsStayShort(String code) {
+        Matcher m = Pattern.compile("(?m)^( {4}| {8})(?! )[^\n;=]*\\([^\n;]*\\) \\{\\n(?s:(.*?))^\\1\\}").matcher(code);
+        int methods = 0;
+        while (m.find()) {
+            methods++;
+            String head = m.group().lines().findFirst().orElse("").trim();
+            DUE.isTrue(head + " has sixty lines at most", m.group().lines().count() <= 60);
+        }
+        DUE.isTrue("methods are found: " + methods, methods > 60);
+    }
+
+    /** Each loop has a counter against a bound on its own line. */
+    private static void loopsEnd(String code) {
+        Matcher m = Pattern.compile("\\b(for|while|do)\\b[^\n]*").matcher(code);
+        int loops = 0;
+        while (m.find()) {
+            loops++;
+            DUE.isTrue("a bound: " + m.group(), m.group().matches("(for|while) \\(.*\\w (<|<=|>|>=) \\w.*"));
+        }
+        DUE.isTrue("loops are found: " + loops, loops > 20);
     }
 }
